@@ -1,3 +1,5 @@
+import java.util.NoSuchElementException;
+
 /** Mailboxes that several sessions look at and change by typed commands. */
 public final class MailSessions {
 
@@ -9,8 +11,8 @@ public final class MailSessions {
     private static final int MOST_LETTERS = 6;
     private static final int MOST_DIGITS = 3;
     private static final int MOST_KEYS_AROUND = 8;
-    /** Twice what the longest reply can need: 40 places told gone, 10 messages told twice. */
-    private static final int MOST_REPLIED = 2048;
+    /** More than the longest reply needs: 40 places told gone (13 signs each), 10 messages told twice (18 each). */
+    private static final int MOST_REPLIED = 1024;
 
     private static final String FLAG_LETTERS = "SAFD";
     private static final int FLAG_S = 1;
@@ -122,9 +124,9 @@ public final class MailSessions {
         return isThere(mailbox) ? mailboxes[mailbox].count : -1;
     }
 
-    public int message(int mailbox, int i, int what) throws java.util.NoSuchElementException {
+    public int message(int mailbox, int i, int what) throws NoSuchElementException {
         if (!isThere(mailbox) || i < 0 || i >= mailboxes[mailbox].count) {
-            throw new java.util.NoSuchElementException();
+            throw new NoSuchElementException();
         }
         Message asked = mailboxes[mailbox].row[i];
         switch (what) {
@@ -135,7 +137,7 @@ public final class MailSessions {
             case WHAT_LETTERS:
                 return asked.text.length();
             default:
-                throw new java.util.NoSuchElementException();
+                throw new NoSuchElementException();
         }
     }
 

@@ -84,6 +84,8 @@ final class ViewTest {
         Check.same("all", "* SEARCH 2 3|a OK", x.ask(0, "a SEARCH ALL"));
         Check.same("not", "* SEARCH 3|a OK", x.ask(0, "a SEARCH NOT HAS A"));
         Check.same("a gone place", "* SEARCH|a OK", x.ask(0, "a SEARCH 1"));
+        Check.same("a gone flag", "* SEARCH|a OK", x.ask(0, "a SEARCH HAS D"));
+        Check.same("a gone text", "* SEARCH 2 3|a OK", x.ask(0, "a SEARCH TEXT abc"));
         Check.same("the last place", "* SEARCH|a OK", x.ask(0, "a SEARCH OR * UID *"));
         Check.same("view", 4, x.mail.view(0));
         String gone = "* 1 EXPUNGE|* 3 EXPUNGE|";
