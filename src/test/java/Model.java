@@ -8,7 +8,9 @@ import java.util.regex.Pattern;
  * program, so that a fault is unlikely to stand in both.
  */
 final class Model {
-    private static final String SET = "(?:\\*|\\d{1,3})(?::(?:\\*|\\d{1,3}))?(?:,(?:\\*|\\d{1,3})(?::(?:\\*|\\d{1,3}))?)*";
+    private static final String POINT = "(?:\\*|\\d{1,3})";
+    private static final String RANGE = POINT + "(?::" + POINT + ")?";
+    private static final String SET = RANGE + "(?:," + RANGE + ")*";
     private static final Pattern LINE = Pattern.compile("([a-z0-9]{1,2}) (?:(NOOP|CLOSE|EXPUNGE|LOGOUT)"
             + "|(CREATE|DELETE|SELECT|EXAMINE) ([a-d])|(APPEND) ([a-d]) \\(([SAFD]*)\\) ([a-z]{1,6})"
             + "|(UID )?(?:(STORE) (" + SET + ") ([+-]?)\\(([SAFD]*)\\)|(FETCH) (" + SET + ") (FLAGS|UID|TEXT)"

@@ -43,7 +43,8 @@ final class ViewTest {
             {"ALL", "1 2 3"}, {"HAS F", "1"}, {"HAS A", ""}, {"TEXT ab", "1 3"}, {"TEXT cabab", "3"},
             {"TEXT cababa", ""}, {"TEXT bab", "3"}, {"TEXT d", "2"}, {"NOT ALL", ""}, {"NOT HAS S", "1 3"},
             {"NOT NOT 2", "2"}, {"OR HAS F HAS S", "1 2"}, {"OR 1 1", "1"}, {"1:2 2:3", "2"}, {"1 2", ""},
-            {"OR 1 2 2", "2"}, {"OR 1 (2 3)", "1"}, {"OR NOT 1 UID 2", "1 2 3"}, {"NOT 1 2", "2"}, {"NOT (1 2)", "1 2 3"},
+            {"OR 1 2 2", "2"}, {"OR 1 (2 3)", "1"}, {"OR NOT 1 UID 2", "1 2 3"}, {"NOT 1 2", "2"},
+            {"NOT (1 2)", "1 2 3"},
             {"(ALL) (2,3) 3", "3"}, {"OR OR 1 2 3", "1 2 3"}, {"NOT OR 1 TEXT bc 3", "3"}, {"UID 4 TEXT cd HAS S", "2"},
         };
         Talk x = withNumbers();
