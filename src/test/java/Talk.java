@@ -5,6 +5,26 @@ final class Talk {
     final MailSessions mail = new MailSessions();
     int calls;
 
+    /** An object with these steps behind it. */
+    static Talk after(String... steps) {
+        return new Talk().then(steps);
+    }
+
+    /** Steps that must go well, each "connect s", "type s text", or "s line" for a line that session s enters. */
+    Talk then(String... steps) {
+        for (String step : steps) {
+            if (step.startsWith("connect ")) {
+                count(1);
+                mail.connect(step.charAt(8) - '0');
+            } else if (step.startsWith("type ")) {
+                type(step.charAt(5) - '0', step.substring(7));
+            } else if (!enter(step.charAt(0) - '0', step.substring(2)).equals("OK")) {
+                throw new AssertionError("a step that a test begins with did not go well: " + step);
+            }
+        }
+        return this;
+    }
+
     /** Types the line in calls of up to four characters. */
     void type(int session, String line) {
         for (int from = 0; from < line.length(); from += 4) {
@@ -57,6 +77,11 @@ final class Talk {
             return "answered " + answer + " but replied " + text;
         }
         return text.replace('\n', '|');
+    }
+
+    int view(int session) {
+        count(1);
+        return mail.view(session);
     }
 
     /** number:flags:letters of each message of a mailbox, with blanks between. */
